@@ -906,13 +906,17 @@ public final class WhichEncore {
             }
             for (int step = BOW; step <= LAST_STEP; step++) {
                 if (levels[depth].isPossible(step) && isWorthATry(step, depth)) {
-                    steps[depth] = step;
-                    levels[depth + 1].copyFrom(levels[depth]);
-                    levels[depth + 1].take(step);
-                    compare(depth + 1);
-                    lookDeeper(depth + 1);
+                    lookBehind(step, depth);
                 }
             }
+        }
+
+        private void lookBehind(int step, int depth) {
+            steps[depth] = step;
+            levels[depth + 1].copyFrom(levels[depth]);
+            levels[depth + 1].take(step);
+            compare(depth + 1);
+            lookDeeper(depth + 1);
         }
 
         /** A bow that moves nobody, or that no encore can follow, only makes a row longer. */

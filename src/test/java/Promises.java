@@ -412,6 +412,7 @@ public final class Promises {
         x = told("fan 9 3;fan 9 4;plain 3 1 7;hire 0");
         due(11, x.does(2), "does(2): one leaves in it");
         due(7, x.count(7), "count(7): one is there then");
+        due(9, x.clapper(0, 1), "clapper(0, 1): who is gone hears nothing");
         x = told("fan 9 3;plain 3 1 7");
         due(0, x.does(2), "does(2): all leave in it");
         due(0, x.count(7), "count(7): nobody is there then");
