@@ -761,14 +761,7 @@ public final class WhichEncore {
             if (step == WAIT) {
                 return true;
             }
-            if (noise() == 0) {
-                return false;
-            }
-            if (step == BOW) {
-                return true;
-            }
-            int encore = step - FIRST_ENCORE;
-            return told.hasEncore(encore) && !wasPlayed(encore) && told.takesArm[encore] <= arm;
+            return (step == BOW || isReady(step - FIRST_ENCORE)) && noise() > 0;
         }
 
         int moreByBow() {
@@ -783,6 +776,10 @@ public final class WhichEncore {
             } else if (told.hasEncore(step - FIRST_ENCORE)) {
                 play(step - FIRST_ENCORE);
             }
+        }
+
+        private boolean isReady(int encore) {
+            return told.hasEncore(encore) && !wasPlayed(encore) && told.takesArm[encore] <= arm;
         }
 
         private void waitOne() {
@@ -905,7 +902,7 @@ public final class WhichEncore {
                 return;
             }
             for (int step = BOW; step <= LAST_STEP; step++) {
-                if (levels[depth].isPossible(step) && isWorthATry(step, depth)) {
+                if (isWorthATry(step, depth) && levels[depth].isPossible(step)) {
                     lookBehind(step, depth);
                 }
             }
