@@ -1,87 +1,5 @@
 // The document's promises one by one: ordinary calls, edges, and what is refused.
-public final class Promises {
-    private static final int NONE = -1, UNKNOWN = -2, OUTSIDE = -3, NOT = -4, FULL = -5;
-    private static int promise;
-    private static int wrong;
-    private static int asked;
-
-    private static void due(long want, long got, String call) {
-        asked++;
-        if (want != got) {
-            wrong++;
-            System.out.println("promise " + promise + ": " + call + " answered " + got + ", due is " + want);
-        }
-    }
-
-    private static void put(WhichEncore x, String text) {
-        for (int i = 0; i < text.length(); i++) {
-            x.write(text.charAt(i));
-        }
-    }
-
-    private static WhichEncore told(String text) {
-        WhichEncore x = new WhichEncore();
-        tell(x, text);
-        return x;
-    }
-
-    private static void tell(WhichEncore x, String text) {
-        put(x, text);
-        if (x.hall() < 1) {
-            due(1, 0, "hall() of " + text);
-        }
-    }
-
-    private static void does(WhichEncore x, int... steps) {
-        for (int step : steps) {
-            if (x.does(step) < 0) {
-                due(0, -1, "does(" + step + ")");
-            }
-        }
-    }
-
-    private static String state(WhichEncore x) {
-        StringBuilder all = new StringBuilder();
-        for (int what = 0; what <= 12; what++) {
-            all.append(x.count(what)).append(' ');
-        }
-        for (int c = 0; c < x.count(0); c++) {
-            for (int what = 0; what <= 5; what++) {
-                all.append(x.clapper(c, what)).append(' ');
-            }
-        }
-        for (int e = 0; e < x.count(1); e++) {
-            for (int what = 0; what <= 4; what++) {
-                all.append(x.encore(e, what)).append(' ');
-            }
-        }
-        return all.append(x.judge(0)).append(' ').append(x.judge(1)).toString();
-    }
-
-    private static void same(String before, WhichEncore x, String call) {
-        String after = state(x);
-        asked++;
-        if (!before.equals(after)) {
-            wrong++;
-            System.out.println("promise " + promise + ": " + call + " changed " + before + " to " + after);
-        }
-    }
-
-    private static void fault(int want, String text) {
-        faultAfter(new WhichEncore(), want, text);
-    }
-
-    private static void faultAfter(WhichEncore x, int want, String text) {
-        x.erase();
-        put(x, text);
-        due(want, x.fault(), "fault() of '" + text + "'");
-        if (want != NONE) {
-            String before = state(x);
-            due(NOT, x.hall(), "hall() of '" + text + "'");
-            same(before, x, "hall()");
-        }
-    }
-
+public final class Promises extends Checks {
     private static void newObject() {
         WhichEncore x = new WhichEncore();
         int[] first = {0, 0, 0, 0, 10, 0, 0, 0, 0, 0, 0, 0, 0};
@@ -467,7 +385,7 @@ public final class Promises {
     }
 
     private static void keepAndBack() {
-        promise = 13;
+        about("promise 13");
         WhichEncore x = told("fan 9 3;shouter 9 99;plain 3 1 7;known 1 1 9");
         does(x, 0, 1);
         due(1, x.keep(0), "keep(0)");
@@ -478,7 +396,7 @@ public final class Promises {
         same(before, x, "keep(2)");
         does(x, 2, 3);
         due(5, x.keep(1), "keep(1)");
-        promise = 14;
+        about("promise 14");
         due(UNKNOWN, x.back(2), "back(2)");
         due(UNKNOWN, x.back(-1), "back(-1)");
         x.row(1);
@@ -508,7 +426,7 @@ public final class Promises {
     private static void tillThereSound() {
         WhichEncore x = told("guest 5 9;fan 6 4;sleeper 9 99;shouter 3 7;guest 4 2");
         String before = state(x);
-        promise = 16;
+        about("promise 16");
         due(31, x.there(0), "there(0)");
         due(31, x.there(1), "there(1)");
         due(15, x.there(2), "there(2)");
@@ -518,7 +436,7 @@ public final class Promises {
         due(0, x.there(99), "there(99)");
         due(OUTSIDE, x.there(100), "there(100)");
         due(OUTSIDE, x.there(-1), "there(-1)");
-        promise = 17;
+        about("promise 17");
         due(27, x.sound(0), "sound(0)");
         due(25, x.sound(1), "sound(1)");
         due(5 + 6 + 5 + 3, x.sound(2), "sound(2)");
@@ -527,7 +445,7 @@ public final class Promises {
         due(4 + 3, x.sound(5), "sound(5)");
         due(OUTSIDE, x.sound(100), "sound(100)");
         due(OUTSIDE, x.sound(-1), "sound(-1)");
-        promise = 15;
+        about("promise 15");
         due(9, x.till(), "till()");
         same(before, x, "till()");
         due(99, told("shouter 1 99").till(), "till() of a shouter");
@@ -590,11 +508,11 @@ public final class Promises {
         due(UNKNOWN, x.row(3), "row(3) on 12");
         due(OUTSIDE, x.row(6), "row(6) on 12");
         due(12, x.count(10), "count(10)");
-        promise = 20;
+        about("promise 20");
         due(12, x.tear(), "tear()");
         due(0, x.tear(), "tear() again");
         due(0, x.count(10), "count(10)");
-        promise = 19;
+        about("promise 19");
         due(1, x.row(0), "row(0) anew");
     }
 
@@ -722,31 +640,28 @@ public final class Promises {
     }
 
     public static void main(String[] args) {
-        promise = 1; newObject();
-        promise = 2; write();
-        promise = 3; erase();
-        promise = 4; fault();
-        promise = 5; hall();
-        promise = 6; clapper();
-        promise = 7; encore();
-        promise = 8; as();
-        promise = 9; encoreAs();
-        promise = 10; can();
-        promise = 11; does();
-        promise = 12; undo();
+        about("promise 1"); newObject();
+        about("promise 2"); write();
+        about("promise 3"); erase();
+        about("promise 4"); fault();
+        about("promise 5"); hall();
+        about("promise 6"); clapper();
+        about("promise 7"); encore();
+        about("promise 8"); as();
+        about("promise 9"); encoreAs();
+        about("promise 10"); can();
+        about("promise 11"); does();
+        about("promise 12"); undo();
         keepAndBack();
         tillThereSound();
-        promise = 18; best();
-        promise = 19; row();
-        promise = 21; judge();
-        promise = 22; stay();
-        promise = 23; gone();
-        promise = 24; prepared();
-        promise = 25; other();
-        promise = 26; count();
-        System.out.println(asked + " asked, " + wrong + " wrong");
-        if (wrong != 0) {
-            System.exit(1);
-        }
+        about("promise 18"); best();
+        about("promise 19"); row();
+        about("promise 21"); judge();
+        about("promise 22"); stay();
+        about("promise 23"); gone();
+        about("promise 24"); prepared();
+        about("promise 25"); other();
+        about("promise 26"); count();
+        finish();
     }
 }
