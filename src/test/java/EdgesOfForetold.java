@@ -75,13 +75,6 @@ public final class EdgesOfForetold extends Edges {
         due(0, x.sound(99), "sound(99) at minute 100");
     }
 
-    private static void best(WhichEncore x, int growth, int... steps) {
-        due(growth, x.best(NONE), "best(NONE)");
-        for (int i = 0; i <= 6; i++) {
-            due(i < steps.length ? steps[i] : NONE, x.best(i), "best(" + i + ")");
-        }
-    }
-
     private static void best() {
         says("Terms", "BEST: rows of STEPS that can be, 6 at most, BOWS and ENCORES alone");
         best(told("fan 1 99;quiet 1 1 9;quiet 1 1 9;quiet 1 1 9;quiet 1 1 9;hire 0"), 36, 1, 1, 2, 3, 4, 5);
@@ -91,8 +84,16 @@ public final class EdgesOfForetold extends Edges {
         best(told("fan 0 99;plain 1 1 9;hire 0"), 0);
         best(told("fan 9 2;plain 2 1 30;hire 0"), 0);
         WhichEncore x = told("fan 9 99;plain 1 1 9;hire 0");
+        best(x, 9, 2);
+        x.other(0);
+        best(x, 9, 2);
         does(x, 2);
         best(x, 0);
+        x.undo();
+        best(x, 9, 2);
+        x = told("sleeper 1 99;quiet 1 1 9;quiet 1 1 9;quiet 1 1 9;hire 0");
+        does(x, 1, 1, 1, 0, 0, 0, 0);
+        best(x, 27, 2, 1, 3, 4);
         says("Terms", "the most by which FAME grows less what is paid (the empty row: 0)");
         best(new WhichEncore(), 0);
         best(told("fan 9 99"), 0);

@@ -215,6 +215,9 @@ public final class EdgesOfTexts extends Edges {
             String word = clause.split(" ")[0];
             fault(0, word.substring(0, word.length() - 1) + clause.substring(word.length()));
             fault(0, word + "s" + clause.substring(word.length()));
+            for (int i = 0; i < word.length(); i++) {
+                fault(0, clause.substring(0, i) + "x" + clause.substring(i + 1));
+            }
         }
         says("Terms", "hall: all as at first");
         WhichEncore x = told("fan 3 9;known 1 1 1;arm 7;close 0;hire 9");
@@ -445,6 +448,11 @@ public final class EdgesOfTexts extends Edges {
         due(NONE, x.fault(), "fault()");
         due(NONE, x.fault(), "fault() again");
         due(10, x.count(4), "count(4): a text that is read is not done");
+        put(x, ";fan 3 9");
+        due(NONE, x.fault(), "fault() of a longer text");
+        due(NONE, x.fault(), "fault() of it again");
+        due(2, x.hall(), "hall()");
+        due(1, x.count(0), "count(0): a text read three times is done once");
     }
 
     private static void hall() {
@@ -464,6 +472,10 @@ public final class EdgesOfTexts extends Edges {
         due(12, x.count(12), "count(12): the text stays");
         due(5, x.count(4), "count(4): no clause is done, not the first either");
         due(10, x.fault(), "fault(): the text stays");
+        x.erase();
+        put(x, "fan 3 9");
+        due(1, x.hall(), "hall() of another text");
+        due(5, x.count(4), "count(4): of the text with a fault nothing is left");
     }
 
     public static void main(String[] args) {

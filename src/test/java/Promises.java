@@ -2,10 +2,7 @@
 public final class Promises extends Checks {
     private static void newObject() {
         WhichEncore x = new WhichEncore();
-        int[] first = {0, 0, 0, 0, 10, 0, 0, 0, 0, 0, 0, 0, 0};
-        for (int what = 0; what < first.length; what++) {
-            due(first[what], x.count(what), "count(" + what + ")");
-        }
+        counts(x, 0, 0, 0, 0, 10, 0, 0, 0, 0, 0, 0, 0, 0);
         does(x, 0);
         due(1, x.count(6), "count(6): hire is 1 at first");
         for (int i = 1; i < 60; i++) {
@@ -124,12 +121,16 @@ public final class Promises extends Checks {
         fault(NONE, "hall;".repeat(13) + "hall");
         fault(69, "hall;".repeat(14) + "hall");
         fault(69, "hall;".repeat(14));
-        WhichEncore x = told(eight + "arm 3");
-        tell(x, four + "arm 3");
-        faultAfter(x, 0, "shouter 1 1");
-        faultAfter(x, 6, "arm 5;shouter 1 1");
-        faultAfter(x, 0, "known 1 1 1");
-        faultAfter(x, NONE, "empty;shouter 1 1");
+        faultAfter(fullHall(), 0, "shouter 1 1");
+        faultAfter(fullHall(), 6, "arm 5;shouter 1 1");
+        faultAfter(fullHall(), 0, "known 1 1 1");
+        faultAfter(fullHall(), NONE, "empty;shouter 1 1");
+    }
+
+    private static WhichEncore fullHall() {
+        WhichEncore x = told("fan 1 1;".repeat(8) + "arm 3");
+        tell(x, "plain 1 1 1;".repeat(4) + "arm 3");
+        return x;
     }
 
     private static void hall() {
@@ -144,10 +145,7 @@ public final class Promises extends Checks {
         x.row(0);
         put(x, "fan 6 20");
         due(1, x.hall(), "hall() again");
-        int[] anew = {2, 1, 0, 11, 7, 0, 0, 0, 3, 0, 0, 0, 0};
-        for (int what = 0; what < anew.length; what++) {
-            due(anew[what], x.count(what), "count(" + what + ") behind a text");
-        }
+        counts(x, 2, 1, 0, 11, 7, 0, 0, 0, 3, 0, 0, 0, 0);
         due(NOT, x.undo(), "undo() behind a text");
         due(NOT, x.back(0), "back(0) behind a text");
         tell(x, "empty");
@@ -296,7 +294,6 @@ public final class Promises extends Checks {
         due(OUTSIDE, x.does(-1), "does(-1)");
         same(before, x, "does() refused");
         zealBehindSteps();
-        fullEvening();
     }
 
     private static void zealBehindSteps() {
@@ -334,18 +331,6 @@ public final class Promises extends Checks {
         x = told("fan 9 3;plain 3 1 7");
         due(0, x.does(2), "does(2): all leave in it");
         due(0, x.count(7), "count(7): nobody is there then");
-    }
-
-    private static void fullEvening() {
-        WhichEncore x = new WhichEncore();
-        for (int i = 0; i < 999; i++) {
-            x.does(0);
-        }
-        due(999, x.count(2), "count(2)");
-        due(FULL, x.does(0), "does(0) at minute 999");
-        due(NOT, x.does(1), "does(1) at minute 999");
-        due(UNKNOWN, x.does(2), "does(2) at minute 999");
-        due(999, x.count(2), "count(2)");
     }
 
     private static void undo() {
@@ -401,10 +386,7 @@ public final class Promises extends Checks {
         due(UNKNOWN, x.back(-1), "back(-1)");
         x.row(1);
         due(1, x.back(0), "back(0)");
-        int[] want = {2, 2, 1, 9 + 9 + 8, 10, 1, 1, 0, 3, 0, 1, 0, 0};
-        for (int what = 0; what < want.length; what++) {
-            due(want[what], x.count(what), "count(" + what + ") behind back(0)");
-        }
+        counts(x, 2, 2, 1, 9 + 9 + 8, 10, 1, 1, 0, 3, 0, 1, 0, 0);
         due(NOT, x.undo(), "undo() behind back(0)");
         due(5, x.back(1), "back(1)");
         due(3, x.count(9), "count(9)");
@@ -461,18 +443,11 @@ public final class Promises extends Checks {
         due(0, x.there(97), "there(97) at minute 2");
     }
 
-    private static void best(WhichEncore x, int growth, int... steps) {
-        String before = state(x);
-        due(growth, x.best(NONE), "best(NONE)");
-        for (int i = 0; i <= 6; i++) {
-            due(i < steps.length ? steps[i] : NONE, x.best(i), "best(" + i + ")");
-        }
-        same(before, x, "best()");
-    }
-
     private static void best() {
         WhichEncore x = told("fan 9 99;fan 9 99;plain 3 4 5;quiet 5 3 9;brilliant 4 6 7;known 2 2 4;arm 14");
+        String before = state(x);
         best(x, 7 + 13 + 10, 2, 3, 4);
+        same(before, x, "best()");
         due(NONE, x.best(1000), "best(1000)");
         due(OUTSIDE, x.best(-2), "best(-2)");
         best(new WhichEncore(), 0);
@@ -628,10 +603,7 @@ public final class Promises extends Checks {
         does(x, 0, 1, 4, 1);
         x.row(0);
         put(x, "fan");
-        int[] want = {2, 3, 2, 18, 7, 2, 4, 18, 3, 4, 1, 4, 3};
-        for (int what = 0; what < want.length; what++) {
-            due(want[what], x.count(what), "count(" + what + ")");
-        }
+        counts(x, 2, 3, 2, 18, 7, 2, 4, 18, 3, 4, 1, 4, 3);
         due(OUTSIDE, x.count(13), "count(13)");
         due(OUTSIDE, x.count(-1), "count(-1)");
         does(x, 2);

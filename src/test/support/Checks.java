@@ -73,6 +73,13 @@ abstract class Checks {
         }
     }
 
+    static void best(WhichEncore x, int growth, int... steps) {
+        due(growth, x.best(NONE), "best(NONE)");
+        for (int i = 0; i <= 6; i++) {
+            due(i < steps.length ? steps[i] : NONE, x.best(i), "best(" + i + ")");
+        }
+    }
+
     static String state(WhichEncore x) {
         StringBuilder all = new StringBuilder();
         for (int what = 0; what <= 12; what++) {
