@@ -679,6 +679,7 @@ public final class WhichEncore {
         int bows;
         int paid;
         int fame;
+        private boolean knownPlayed;
         private final Told told;
 
         Evening(Told told) {
@@ -694,6 +695,7 @@ public final class WhichEncore {
             bows = 0;
             paid = 0;
             fame = 0;
+            knownPlayed = false;
         }
 
         void copyFrom(Evening from) {
@@ -705,6 +707,7 @@ public final class WhichEncore {
             bows = from.bows;
             paid = from.paid;
             fame = from.fame;
+            knownPlayed = from.knownPlayed;
         }
 
         boolean isThere(int clapper) {
@@ -712,7 +715,7 @@ public final class WhichEncore {
         }
 
         boolean isClapping(int clapper) {
-            return isThere(clapper) && zeal[clapper] > 0;
+            return (there >> clapper & 1) != 0 && zeal[clapper] > 0;
         }
 
         boolean wasPlayed(int encore) {
@@ -751,7 +754,7 @@ public final class WhichEncore {
             int beside = whoIsBeside(clapper);
             switch (told.clapperKind[clapper]) {
                 case SLEEPER: return Math.min(2, zeal[clapper]);
-                case SHOUTER: return isKnownPlayed() ? 1 : 0;
+                case SHOUTER: return knownPlayed ? 1 : 0;
                 case FAN: return (beside & clapping) != 0 ? 0 : 1;
                 default: return beside != 0 && (beside & ~clapping) == 0 ? 0 : 1;
             }
@@ -765,7 +768,7 @@ public final class WhichEncore {
         }
 
         int moreByBow() {
-            return isKnownPlayed() ? 0 : Math.max(0, FIRST_BOW - bows);
+            return knownPlayed ? 0 : Math.max(0, FIRST_BOW - bows);
         }
 
         void take(int step) {
@@ -801,13 +804,14 @@ public final class WhichEncore {
         }
 
         private void play(int encore) {
+            int kind = told.encoreKind[encore];
             letPass(told.minutes[encore]);
             arm -= told.takesArm[encore];
             played |= 1 << encore;
+            knownPlayed = knownPlayed || kind == KNOWN;
             for (int clapper = 0; clapper < told.clappers; clapper++) {
                 if (isThere(clapper)) {
-                    zeal[clapper] =
-                        zealBehind(told.encoreKind[encore], zeal[clapper], told.came[clapper]);
+                    zeal[clapper] = zealBehind(kind, zeal[clapper], told.came[clapper]);
                 }
             }
             fame += told.worth[encore] * Integer.bitCount(there);
@@ -826,23 +830,9 @@ public final class WhichEncore {
         }
 
         private int whoIsBeside(int clapper) {
-            int beside = 0;
-            if (told.hasClapper(clapper - 1)) {
-                beside |= 1 << clapper - 1;
-            }
-            if (told.hasClapper(clapper + 1)) {
-                beside |= 1 << clapper + 1;
-            }
-            return beside;
-        }
-
-        private boolean isKnownPlayed() {
-            for (int encore = 0; encore < told.encores; encore++) {
-                if (wasPlayed(encore) && told.encoreKind[encore] == KNOWN) {
-                    return true;
-                }
-            }
-            return false;
+            int all = (1 << told.clappers) - 1;
+            int self = 1 << clapper;
+            return (self >> 1 | self << 1) & all;
         }
     }
 
